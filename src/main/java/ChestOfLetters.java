@@ -698,7 +698,7 @@ public final class ChestOfLetters {
         }
 
         /** The sign to be read next; NONE behind the last. */
-        int sign() {
+        int ahead() {
             return at < end ? signs[at] : NONE;
         }
 
@@ -723,7 +723,7 @@ public final class ChestOfLetters {
         }
 
         boolean pass(int due) {
-            if (sign() != due) {
+            if (ahead() != due) {
                 return fail();
             }
             step();
@@ -731,17 +731,17 @@ public final class ChestOfLetters {
         }
 
         boolean passIf(int sign) {
-            boolean there = sign() == sign;
+            boolean there = ahead() == sign;
             at += there ? 1 : 0;
             return there;
         }
 
         boolean atDigit() {
-            return sign() >= '0' && sign() <= '9';
+            return ahead() >= '0' && ahead() <= '9';
         }
 
         boolean atLetter() {
-            return sign() >= 'a' && sign() < 'a' + LETTERS;
+            return ahead() >= 'a' && ahead() < 'a' + LETTERS;
         }
 
         int letter() {
@@ -749,7 +749,7 @@ public final class ChestOfLetters {
                 fail();
                 return NONE;
             }
-            int letter = sign() - 'a';
+            int letter = ahead() - 'a';
             step();
             return letter;
         }
@@ -761,7 +761,7 @@ public final class ChestOfLetters {
             }
             int value = 0;
             for (int i = 0; i < mostDigits && atDigit(); i++) {
-                value = value * 10 + sign() - '0';
+                value = value * 10 + ahead() - '0';
                 step();
             }
             return value;
@@ -920,7 +920,7 @@ public final class ChestOfLetters {
         }
 
         private boolean readLine(Text text) {
-            if (text.sign() == 'w') {
+            if (text.ahead() == 'w') {
                 return readWall(text);
             }
             int letter = text.letter();
@@ -1050,7 +1050,7 @@ public final class ChestOfLetters {
 
         private void readExpression(Text text, int depth) {
             readSum(text, depth);
-            int sign = text.sign();
+            int sign = text.ahead();
             if (text.good() && (sign == '<' || sign == '>' || sign == '=')) {
                 text.step();
                 readSum(text, depth);
@@ -1061,7 +1061,7 @@ public final class ChestOfLetters {
         private void readSum(Text text, int depth) {
             readProduct(text, depth);
             for (int i = 0; i < Text.MOST_RULE && text.good(); i++) {
-                int sign = text.sign();
+                int sign = text.ahead();
                 if (sign != '+' && sign != '-') {
                     return;
                 }
@@ -1074,7 +1074,7 @@ public final class ChestOfLetters {
         private void readProduct(Text text, int depth) {
             readNegated(text, depth);
             for (int i = 0; i < Text.MOST_RULE && text.good(); i++) {
-                int sign = text.sign();
+                int sign = text.ahead();
                 if (sign != '*' && sign != '/') {
                     return;
                 }
@@ -1086,7 +1086,7 @@ public final class ChestOfLetters {
 
         private void readNegated(Text text, int depth) {
             boolean negated = false;
-            for (int i = 0; i < Text.MOST_RULE && text.sign() == '-'; i++) {
+            for (int i = 0; i < Text.MOST_RULE && text.ahead() == '-'; i++) {
                 text.step();
                 negated = !negated;
             }
@@ -1097,7 +1097,7 @@ public final class ChestOfLetters {
         }
 
         private void readThing(Text text, int depth) {
-            int sign = text.sign();
+            int sign = text.ahead();
             if (text.atDigit()) {
                 emit(text.number(3));
             } else if (isThing(sign)) {
@@ -1197,7 +1197,7 @@ public final class ChestOfLetters {
         }
 
         private boolean readStep(Text text) {
-            int kind = text.sign();
+            int kind = text.ahead();
             if (size >= kinds.length || !isKind(kind)) {
                 return text.fail();
             }
@@ -1267,7 +1267,7 @@ public final class ChestOfLetters {
             System.arraycopy(states, slot * SIZE, cells, 0, SIZE);
         }
 
-        Town town() {
+        Town place() {
             return town;
         }
 
@@ -1616,7 +1616,7 @@ public final class ChestOfLetters {
         void ofWords(State state, int walls) {
             fill(state, walls, false);
             for (int letter = 0; letter < LETTERS; letter++) {
-                pool[letter] = state.town().stock(letter);
+                pool[letter] = state.place().stock(letter);
             }
         }
 
@@ -1639,7 +1639,7 @@ public final class ChestOfLetters {
             int bit = 1 << wall;
             for (int rest = 0; rest < bit; rest++) {
                 if ((rest & ~among) == 0) {
-                    worths[rest + bit] = worths[rest] + state.town().worth(wall);
+                    worths[rest + bit] = worths[rest] + state.place().worth(wall);
                     for (int letter = 0; letter < LETTERS; letter++) {
                         int more = lackOnly ? state.lack(wall, letter) : state.need(wall, letter);
                         needs[(rest + bit) * LETTERS + letter] = needs[rest * LETTERS + letter] + more;
@@ -1831,8 +1831,8 @@ public final class ChestOfLetters {
         /** Whether there are so few ways that all of them are looked through. */
         boolean isSmall(State state) {
             int all = 1;
-            for (int wall = 0; wall < state.town().walls() && all <= MOST_WAYS; wall++) {
-                all *= state.hasWord(wall) ? 1 + likeSense(state.town(), state.wordOf(wall)) : 1;
+            for (int wall = 0; wall < state.place().walls() && all <= MOST_WAYS; wall++) {
+                all *= state.hasWord(wall) ? 1 + likeSense(state.place(), state.wordOf(wall)) : 1;
             }
             return all <= MOST_WAYS;
         }
@@ -1846,7 +1846,7 @@ public final class ChestOfLetters {
         }
 
         int dearestWords(State state) {
-            Town town = state.town();
+            Town town = state.place();
             for (int letter = 0; letter < LETTERS; letter++) {
                 pool[letter] = town.stock(letter);
             }
@@ -1869,7 +1869,7 @@ public final class ChestOfLetters {
             if (worth + worthFrom[wall] <= most) {
                 return;
             }
-            if (wall >= state.town().walls()) {
+            if (wall >= state.place().walls()) {
                 most = worth;
                 System.arraycopy(choice, 0, chosen, 0, MOST_WALLS);
                 return;
@@ -1877,12 +1877,12 @@ public final class ChestOfLetters {
             choice[wall] = NONE;
             decideBehind(state, wall, worth);
             if (state.hasWord(wall)) {
-                int sense = state.town().sense(state.wordOf(wall));
-                for (int word = 0; word < state.town().words(); word++) {
-                    if (state.town().sense(word) == sense && draw(state.town(), word)) {
+                int sense = state.place().sense(state.wordOf(wall));
+                for (int word = 0; word < state.place().words(); word++) {
+                    if (state.place().sense(word) == sense && draw(state.place(), word)) {
                         choice[wall] = word;
-                        decideBehind(state, wall, worth + state.town().worth(wall));
-                        putBack(state.town(), word);
+                        decideBehind(state, wall, worth + state.place().worth(wall));
+                        putBack(state.place(), word);
                     }
                 }
             }
@@ -1916,7 +1916,7 @@ public final class ChestOfLetters {
                 pool[letter] = state.inChest(letter);
             }
             ways = 0;
-            choose(state.town(), 0, n, 0, 0);
+            choose(state.place(), 0, n, 0, 0);
             return ways;
         }
 
