@@ -566,6 +566,7 @@ public final class PromisesTest {
         due("b0;", Talk.order(chest, "b0;"), -4);
         due("l0=1", Talk.order(chest, "l0=1a"), -3);
         due("l0>a", Talk.order(chest, "l0>a"), -4);
+        due("l0>11a", Talk.order(chest, "l0>11a"), -5);
         due("l0>1k", Talk.order(chest, "l0>1k"), -5);
         due("l0>1aa", Talk.order(chest, "l0>1aa"), -6);
         due("n", Talk.order(chest, "n"), -2);
@@ -736,6 +737,12 @@ public final class PromisesTest {
         chest.bring(1);
         due("none needed", chest.helps(3), 0);
         row("helps", chest);
+        ChestOfLetters first = Talk.chest("a2;aab=1;a=2;w1,1;w1,1;w1,1");
+        first.hang(0, 0);
+        first.take(0);
+        first.hang(2, 1);
+        due("the first wall lends", first.helps(2), 1);
+        row("the first wall lends", first, 20);
     }
 
     private static void together() {
@@ -907,6 +914,12 @@ public final class PromisesTest {
         nine.hang(3, 0);
         due("10000 ways", nine.best(), 1);
         row("10000 ways", nine, -1, -1, -1, 0, -1);
+        Talk.town(nine, "a1;a=2");
+        nine.hang(4, 9);
+        due("20000 ways", nine.best(), 2);
+        row("20000 ways", nine, -1, -1, -1, 0, 9);
+        Talk.town(nine, "a=2");
+        due("30000 ways", nine.best(), -3);
     }
 
     private static void sameAndUnlike() {
