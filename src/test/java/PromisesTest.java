@@ -850,6 +850,12 @@ public final class PromisesTest {
         chest.hang(1, 4);
         due("one can't", chest.shows(), -2);
         row("stays", chest, 9, 4, 32);
+        ChestOfLetters eight = Talk.chest("a1;a=1;" + repeat("w1,9", 8));
+        for (int wall = 0; wall < 8; wall++) {
+            eight.hang(wall, 0);
+        }
+        due("eight weeks", eight.shows(), 8);
+        row("eight weeks", eight, 1, 2, 4, 8, 16, 32, 64, 128);
     }
 
     private static void otherwise() {
@@ -983,6 +989,9 @@ public final class PromisesTest {
         ChestOfLetters letters = Talk.chest("a=1;b=1;c=1;d=1;e=1;f=1;g=1;h=1;i=1;j=1;aa=1;bb=1");
         due("all", letters.chain(3), 10);
         row("all", letters, 3, 0, 1, 2, 4, 5, 6, 7, 8, 9);
+        ChestOfLetters last = Talk.chest("aa=1;bb=1;" + repeat("ccc=1", 9) + ";ab=1");
+        due("by the last word", last.ladder(0, 1), 2);
+        row("by the last word", last, 11);
     }
 
     private static void cover() {
@@ -995,6 +1004,9 @@ public final class PromisesTest {
         ChestOfLetters fewer = Talk.chest("aab=1;bcc=1;ca=1;b=1");
         due("fewest letters", fewer.cover(), 2);
         row("fewest letters", fewer, 4 + 8);
+        ChestOfLetters without = Talk.chest("cb=1;bj=1;j=1");
+        due("letters that are in no word", without.cover(), 2);
+        row("letters that are in no word", without, 1 + 4);
     }
 
     private static void streets() {
@@ -1133,6 +1145,8 @@ public final class PromisesTest {
         due("undo stays", chest.count(6), 5);
         due("again 2", chest.again(2), false);
         due("again -1", chest.again(-1), false);
+        due("again 32", chest.again(32), false);
+        due("again 33", chest.again(33), false);
         due("again", chest.again(1), true);
         due("word", Talk.wall(chest, 0, 2), "0");
         due("u", Talk.wall(chest, 0, 7), "2");
