@@ -622,6 +622,25 @@ public final class TextEdgesTest extends Edges {
         }
     }
 
+    /** Nor is it seen in what comes later in its place. */
+    static void nothingOfAWrongTownIsInWhatComesLater() {
+        ChestOfLetters chest = new ChestOfLetters();
+        towns(chest, "a3;abcdefgh=7;iijj=8;w99,9;w98,8;x", -34);
+        towns(chest, "b1;b=1;j=2;w1,2", 4);
+        due("a", chest.left(0), 0);
+        due("word 0", chest.word(0), 1);
+        row("word 0", chest, 1);
+        due("unlike", chest.unlike(0, 1), 2);
+        due("hang", chest.hang(0, 0), 1);
+        due("take", chest.take(0), 0);
+        wall(chest, 0, "1 2 0 1 0 1 0 0 1");
+        due("hang", chest.hang(0, 1), 1);
+        due("wanting", chest.wanting(9), 1);
+        row("wanting", chest, 1, 1);
+        due("words", chest.count(0), 2);
+        due("walls", chest.count(1), 1);
+    }
+
     static void nothingOfAWrongTownComesIntoAFullOne() {
         emptiesTheTextAlone("town", Edges::full, "a1", chest -> chest.town(), -2);
         emptiesTheTextAlone("town", Edges::full, "a0;ab=1", chest -> chest.town(), -6);

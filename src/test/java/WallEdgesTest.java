@@ -1005,6 +1005,24 @@ public final class WallEdgesTest extends Edges {
         row("three", chest, 14);
     }
 
+    /** 100 times the first WALL, 10 times the other one, and the LETTER: up to the last of each. */
+    static void judgeReadsWallsAndLetters() {
+        ChestOfLetters chest = Talk.chest("i1;j1;ij=1;" + repeat("w1,1", 8));
+        for (int from = 0; from < 8; from++) {
+            int to = 7 - from;
+            chest.hang(from, 0);
+            chest.hang(to, 0);
+            chest.take(from);
+            for (int letter = 0; letter < 10; letter++) {
+                due("judge", chest.judge(1, 100 * from + 10 * to + letter), letter >= 8 ? -2 : 0);
+                row("judge", chest, letter >= 8 ? 0 : 1 << from);
+            }
+            due("judge", chest.judge(2, 100 * from + 10 * to + 8 | 100 * from + 10 * to + 9 << 10), -2);
+            row("judge", chest, 1 << to);
+            chest.bring(from);
+        }
+    }
+
     /** Numbers up to 1023: a first WALL of 10 is none such; nor are WALLS that are not there, or like ones. */
     static void judgeOfNoneSuchCant() {
         for (int told : new int[] {1000, 1012, 1023, 512, 52, 11, 0, 111, 989}) {

@@ -241,6 +241,20 @@ public final class WordEdgesTest extends Edges {
         due("3375", fewer.best(), 6);
     }
 
+    /** 20000 by some WALLS, and more by the next; those without a WORD are no matter. */
+    static void bestOfMoreThan20000WaysByTheLastWall() {
+        String words = repeat("a=1", 9) + ";a=2";
+        changesNothing("40000", () -> ways(words, 0, 0, 0, 0, 9, 9), chest -> chest.best(), -3);
+        changesNothing("a wall without a word ahead", () -> {
+            ChestOfLetters chest = ways(words, 0, 0, 0, 0, 0, 0);
+            chest.bring(0);
+            chest.bring(3);
+            chest.hang(6, 0);
+            chest.hang(7, 0);
+            return chest;
+        }, chest -> chest.best(), -3);
+    }
+
     static void bestOfTheMostWays() {
         changesNothing("13 to the eighth", () -> ways(repeat("a=1", 12), 0, 1, 2, 3, 4, 5, 6, 7), chest -> chest.best(), -3);
     }
@@ -612,6 +626,16 @@ public final class WordEdgesTest extends Edges {
         ChestOfLetters late = Talk.chest("a3;b9;aab=1;aab=1;bbb=1;b=1;a=1");
         due("two", late.streets(2), 9);
         row("two", late, 8 + 16, 2);
+    }
+
+    /** The fewest LETTERS ahead of the least bits; the least bits, though others are met first. */
+    static void streetsAreTheLeastOfTheFewest() {
+        ChestOfLetters fewest = Talk.chest("a9;a=1;a=1;aa=1;aa=1;a=1");
+        due("three of five", fewest.streets(3), 10);
+        row("three of five", fewest, 1 + 2 + 16, 3);
+        ChestOfLetters least = Talk.chest("a1;b1;c1;d1;e1;a=1;bc=1;bd=1;ce=1;de=1");
+        due("two ways", least.streets(3), 2);
+        row("two ways", least, 1 + 4 + 8, 5);
     }
 
     static void streetsChangeTheRowAlone() {
