@@ -78,6 +78,16 @@ public final class ShortEdgesTest extends Edges {
         row("c", busy, 5);
     }
 
+    /** The greatest that one more makes, though others that lack it are worth less. */
+    static void scarceIsOfTheDearestSet() {
+        ChestOfLetters chest = Talk.chest("b=1;w9,1;w5,1;w7,1");
+        chest.hang(0, 0);
+        chest.hang(1, 0);
+        chest.hang(2, 0);
+        due("b", chest.scarce(), 1);
+        row("b", chest, 9);
+    }
+
     /** Of equal ones the first. */
     static void scarceOfEqualOnesIsTheFirst() {
         ChestOfLetters chest = Talk.chest("j=1;b=1;c=1;w5,1;w5,1;w5,1");
@@ -158,6 +168,44 @@ public final class ShortEdgesTest extends Edges {
         Talk.town(chest, "a1");
         due("and one is left", chest.hoards(), 2);
         row("and one is left", chest, 1);
+    }
+
+    /** The most, though a dearer or a later set has fewer; the last LETTERS, too. */
+    static void hoardsLetTheMostBeUp() {
+        ChestOfLetters chest = Talk.chest("i1;j1;ij=1;i=1;j=1;w1,1;w1,1;w1,1;w99,1");
+        chest.hang(0, 0);
+        chest.take(0);
+        chest.hang(1, 1);
+        chest.hang(2, 2);
+        chest.hang(3, 0);
+        due("hoards", chest.hoards(), 0);
+        row("hoards", chest, 2);
+        chest.bring(1);
+        due("one that waits", chest.hoards(), 0);
+        row("one that waits", chest, 1);
+        chest.bring(0);
+        chest.hang(1, 1);
+        chest.take(1);
+        due("j is left", chest.hoards(), 0);
+        row("j is left", chest, 1);
+        chest.take(2);
+        due("none does", chest.hoards(), 0);
+        row("none does", chest, 0);
+    }
+
+    /** What others that WAIT lack, not what their WORDS need. */
+    static void hoardsOfWhatOthersLack() {
+        ChestOfLetters chest = Talk.chest("a3;a=1;aaa=1;w1,1;w1,1;w1,1");
+        chest.hang(0, 0);
+        chest.take(0);
+        chest.hang(1, 1);
+        chest.take(1);
+        due("wall 1 has two of three", chest.hoards(), 0);
+        row("wall 1 has two of three", chest, 1);
+        chest.hang(2, 0);
+        due("one of two", chest.hoards(), 0);
+        row("one of two", chest, 1);
+        due("itself", chest.wall(1, 4), 1);
     }
 
     /** The last of eight, all others. */
@@ -290,6 +338,19 @@ public final class ShortEdgesTest extends Edges {
         chest.counted(0, 9, 0);
         due("none", chest.liars(), 0);
         row("stays", chest, 5, 5);
+    }
+
+    /** On that WALL, be there more or fewer on others. */
+    static void liarsAreTheWallsOnWhichTheyWereCounted() {
+        ChestOfLetters chest = Talk.chest("j3;jjj=1;w1,1;w1,1;w1,1");
+        chest.hang(1, 0);
+        chest.take(1);
+        chest.counted(1, 9, 3);
+        due("as many", chest.liars(), 0);
+        chest.counted(2, 9, 3);
+        due("on wall 2", chest.liars(), 4);
+        chest.counted(0, 9, 2);
+        due("on walls 0, 2", chest.liars(), 5);
     }
 
     static void liarsOfNoneAndOfAll() {

@@ -625,6 +625,7 @@ public final class TextEdgesTest extends Edges {
     /** Nor is it seen in what comes later in its place. */
     static void nothingOfAWrongTownIsInWhatComesLater() {
         ChestOfLetters chest = new ChestOfLetters();
+        towns(chest, "a20;j20;x", -9);
         towns(chest, "a3;abcdefgh=7;iijj=8;w99,9;w98,8;x", -34);
         towns(chest, "b1;b=1;j=2;w1,2", 4);
         due("a", chest.left(0), 0);
@@ -639,6 +640,7 @@ public final class TextEdgesTest extends Edges {
         row("wanting", chest, 1, 1);
         due("words", chest.count(0), 2);
         due("walls", chest.count(1), 1);
+        towns(chest, "a20;j20", 2);
     }
 
     static void nothingOfAWrongTownComesIntoAFullOne() {
@@ -801,6 +803,11 @@ public final class TextEdgesTest extends Edges {
         due("q of one that waits", ruleOf(chest, 1, "u*100+q"), 2);
         due("m of one of which some hangs", ruleOf(chest, 1, "n*100+m"), 201);
         due("t", ruleOf(chest, 0, "t*100+w"), 409);
+        due("t of another one", chest.wall(1, 8), 105);
+        due("s of one", ruleOf(chest, 0, "s*100+n"), 103);
+        due("s of another one", chest.wall(1, 8), 202);
+        chest.bring(0);
+        due("s, the first has no word", chest.wall(1, 8), 202);
     }
 
     /** 0 without a WORD, whatever the rule. */

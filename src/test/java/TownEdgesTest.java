@@ -116,6 +116,10 @@ public final class TownEdgesTest extends Edges {
         ChestOfLetters chest = full();
         wall(chest, 0, "1 1 0 8 0 1 0 0 1");
         wall(chest, 7, "1 1 7 0 2 0 0 0 1");
+        ChestOfLetters last = Talk.chest("i3;j5;iiijjjjj=1;w1,1");
+        last.hang(0, 0);
+        last.take(0);
+        wall(last, 0, "1 1 0 8 0 1 0 0 1");
     }
 
     /** NoSuchElementException: none such. */

@@ -93,6 +93,47 @@ public final class UpEdgesTest extends Edges {
         refused("wall 4 and others", chest -> chest.together(31));
     }
 
+    /** The last LETTERS count as the first: none are had for nothing, none are lacking that are there. */
+    static void theLastLettersCount() {
+        ChestOfLetters chest = Talk.chest("i1;j1;ij=1;j=1;w5,1;w4,1");
+        chest.hang(0, 0);
+        chest.hang(1, 1);
+        due("one", chest.together(1), 1);
+        due("both", chest.together(3), 0);
+        row("both", chest, 512);
+        due("most", chest.most(), 1);
+        due("dearest", chest.dearest(), 5);
+        row("dearest", chest, 1);
+        due("shows", chest.shows(), 2);
+        due("rob", chest.rob(), 5);
+        chest.take(1);
+        due("rob, the j is up", chest.rob(), 0);
+        due("scarce", chest.scarce(), 9);
+        row("scarce", chest, 4);
+        due("cast", chest.cast(1), 9);
+        row("cast", chest, 3, 0, 0, 0, 0, 0, 0, 0, 0, 0, 1);
+    }
+
+    /** WALLS that have no WORD any more are in no set, whatever was asked when they had. */
+    static void wallsThatLostTheirWordsAreOut() {
+        ChestOfLetters chest = three();
+        due("dearest", chest.dearest(), 5);
+        due("cast", chest.cast(99), 12);
+        chest.bring(0);
+        chest.bring(3);
+        due("dearest", chest.dearest(), 5);
+        row("dearest", chest, 2 + 4);
+        due("cast", chest.cast(99), 5);
+        row("cast", chest, 2 + 4, 0, 0, 0, 0, 0, 0, 0, 0, 0, 0);
+        due("scarce", chest.scarce(), 0);
+        row("scarce", chest, 0);
+        chest.bring(1);
+        due("dearest", chest.dearest(), 2);
+        row("dearest", chest, 4);
+        due("rob", chest.rob(), 2);
+        due("most", chest.most(), 1);
+    }
+
     static void togetherChangesTheRowAlone() {
         changesTheRowAlone("together", Edges::busy, chest -> chest.together(15), 0);
         changesTheRowAlone("together", Edges::busy, chest -> chest.together(13), 1);
@@ -388,6 +429,16 @@ public final class UpEdgesTest extends Edges {
         Talk.town(pairs, "a1");
         due("a week", pairs.shows(), 1);
         row("a week", pairs, 14);
+    }
+
+    /** The first set is one that can be UP at once, though without it fewer WEEKS are left. */
+    static void showsAreOfWallsThatCanBeUpAtOnce() {
+        ChestOfLetters chest = Talk.chest("a1;b1;a=1;ab=1;b=1;w1,1;w1,1;w1,1");
+        chest.hang(0, 0);
+        chest.hang(1, 1);
+        chest.hang(2, 2);
+        due("shows", chest.shows(), 2);
+        row("shows", chest, 5, 2);
     }
 
     /** -2: one alone can't be UP, be the others as they may; the ROW stays. */

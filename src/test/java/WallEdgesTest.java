@@ -182,6 +182,18 @@ public final class WallEdgesTest extends Edges {
         due("none is wanting", chest.lend(0, 1, 0), -3);
     }
 
+    /** Of that LETTER, not of others: the last one, too. */
+    static void lendAnswersOfItsLetterAlone() {
+        ChestOfLetters chest = Talk.chest("i1;j3;ijjj=1;aijj=1;w1,1;w1,1");
+        chest.hang(0, 0);
+        chest.hang(1, 1);
+        chest.take(0);
+        due("j", chest.lend(0, 1, 9), 1);
+        due("j", chest.lend(0, 1, 9), 0);
+        due("i", chest.lend(0, 1, 8), 0);
+        wall(chest, 1, "1 1 1 3 1 0 0 0 1");
+    }
+
     /** A WALL that lends of its WORD waits, one that has all of it is UP; q and u stay. */
     static void lendMakesWallsWaitAndUp() {
         ChestOfLetters chest = busy();
@@ -1090,6 +1102,18 @@ public final class WallEdgesTest extends Edges {
         chest.take(1);
         due("eight", chest.helps(0), 8);
         row("eight", chest, 100, 101, 102, 103, 104, 105, 106, 207);
+    }
+
+    /** The last LETTERS, too: one fewer of them, just enough. */
+    static void helpsOfTheLastLetters() {
+        ChestOfLetters chest = Talk.chest("i1;j1;aij=1;ijj=1;w1,1;w1,1");
+        chest.hang(0, 0);
+        chest.take(0);
+        chest.hang(1, 1);
+        due("one j is wanting", chest.helps(1), -2);
+        Talk.town(chest, "j1");
+        due("helps", chest.helps(1), 2);
+        row("helps", chest, 18, 19);
     }
 
     /** LETTERS rising, of each from WALLS rising; none from itself. */

@@ -60,6 +60,24 @@ public final class WordEdgesTest extends Edges {
         due("they hang there", chest.nearest(0), 0);
     }
 
+    /** What hangs on that WALL, not on another one; the last LETTERS, too. */
+    static void nearestWithWhatHangsThere() {
+        ChestOfLetters chest = Talk.chest("i1;j1;j=1;ijj=1;ij=1;w1,1;w1,1");
+        chest.hang(0, 0);
+        chest.take(0);
+        chest.hang(1, 1);
+        due("j hangs elsewhere", chest.nearest(1), -2);
+        chest.bring(0);
+        due("j is left", chest.nearest(1), 2);
+        row("j is left", chest, 1);
+        chest.take(1);
+        due("j hangs there", chest.nearest(1), 2);
+        due("j hangs there", chest.shortest(1), 0);
+        chest.hang(0, 0);
+        due("j hangs on wall 1", chest.nearest(0), -2);
+        due("j hangs on wall 1", chest.shortest(0), -2);
+    }
+
     /** Of the same SENSE: -2, none that could be. */
     static void nearestOfNone() {
         Maker maker = () -> {
@@ -214,6 +232,21 @@ public final class WordEdgesTest extends Edges {
         due("none left", chest.left(0), 0);
         due("best", chest.best(), 9);
         row("best", chest, 1, 1);
+    }
+
+    /** WALLS that are worth less, or have no WORD, ahead of others; the last LETTERS. */
+    static void bestOfWallsBehindThoseOfLessWorth() {
+        ChestOfLetters chest = Talk.chest("i1;j1;i=1;j=1;ij=1;w1,1;w98,1;w99,1");
+        chest.hang(1, 0);
+        chest.hang(2, 1);
+        due("the first has none", chest.best(), 197);
+        row("the first has none", chest, NONE, 0, 1);
+        chest.hang(0, 2);
+        due("the first is worth less", chest.best(), 197);
+        row("the first is worth less", chest, NONE, 0, 1);
+        Talk.town(chest, "j1");
+        due("all", chest.best(), 198);
+        row("all", chest, 0, 1, 1);
     }
 
     private static ChestOfLetters ways(String words, int... hung) {
@@ -421,6 +454,9 @@ public final class WordEdgesTest extends Edges {
         ChestOfLetters both = Talk.chest("aa=1;ab=1;ba=1;dd=1;ca=1");
         due("chain of both ends", both.chain(0), 3);
         row("chain of both ends", both, 0, 2, 4);
+        ChestOfLetters late = Talk.chest(repeat("jjj=1", 8) + ";aa=1;ab=1;ca=1;cd=1");
+        due("chain of late words", late.chain(8), 3);
+        row("chain of late words", late, 8, 10, 11);
     }
 
     /** As long, and unlike in one place: not in none, not in two. */
@@ -478,6 +514,9 @@ public final class WordEdgesTest extends Edges {
         ChestOfLetters fewerWords = Talk.chest("aaaabbbb=1;a=1;b=1");
         due("fewer words first", fewerWords.cover(), 1);
         row("fewer words first", fewerWords, 1);
+        ChestOfLetters later = Talk.chest("a=1;b=1;aaaabbbb=1");
+        due("fewer words that come later", later.cover(), 1);
+        row("fewer words that come later", later, 4);
     }
 
     /** Then the least set. */
@@ -604,6 +643,13 @@ public final class WordEdgesTest extends Edges {
         row("five of six", chest);
         due("two of five", chest.streets(2), 3);
         row("two of five", chest, 3, 3);
+    }
+
+    static void streetsOfTheLastLetters() {
+        ChestOfLetters chest = Talk.chest("i1;j1;ij=1;j=1;i=1");
+        due("one", chest.streets(1), 3);
+        due("two", chest.streets(2), 1);
+        row("two", chest, 6, 2);
     }
 
     /** Unlike WORDS: none twice; those that are spelt alike are two. */
