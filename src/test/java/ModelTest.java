@@ -2,14 +2,18 @@ import java.util.Random;
 
 /** Runs of calls, always the same ones, on the class and on the model of it: answers and rows are the same. */
 public final class ModelTest {
-    private static final int RUNS = 400;
-    private static final int CALLS = 300;
+    private static final int RUNS = 5000;
+    /** What is promised of one object; the tests' own asking counts, too. */
+    private static final int CALLS = 512;
+    private static final int MOST_COMPARED = 10 + 8 * (9 + 10);
+    private static final int MOST_STEP = 3 + 20 + 1 + 1 + 16 + 1;
 
     private final Random random;
     private final ChestOfLetters chest = new ChestOfLetters();
     private final Model model = new Model();
     private final Check check;
     private final int letters;
+    private int spent;
 
     private ModelTest(int run, Check check) {
         random = new Random(run);
@@ -138,19 +142,21 @@ public final class ModelTest {
 
     private void tell(String text) {
         Talk.text(chest, text);
+        spent += 2 + (text.length() + 3) / 4;
         model.text = text;
     }
 
     private void run(int run) {
         String trace = "";
-        for (int call = 0; call < CALLS && check.wrong() < 20; call++) {
+        for (int call = 0; spent + MOST_STEP + 2 * MOST_COMPARED <= CALLS && check.wrong() < 20; call++) {
             int which = call < 8 ? 0 : call < 30 && random.nextBoolean() ? 10 + random.nextInt(2) : random.nextInt(46);
             int before = check.wrong();
             String told = which < 10 ? town(which) : which < 22 ? walls(which) : which < 36 ? sets(which) : rest(which);
             check.due("run " + run + ", call " + call + ": row of " + told, Talk.row(chest), model.row);
             check.due("run " + run + ", call " + call + ": text of " + told, chest.count(9), model.text.length());
+            spent += 3 + model.row.size();
             trace += told + "\n";
-            if (random.nextInt(4) == 0) {
+            if (random.nextInt(40) == 0 || spent + MOST_STEP + 2 * MOST_COMPARED > CALLS) {
                 compareAll(run, call, told);
             }
             if (check.wrong() > before) {
@@ -161,6 +167,7 @@ public final class ModelTest {
     }
 
     private void compareAll(int run, int call, String told) {
+        spent += 10 + model.walls.size() * 19;
         for (int what = 0; what < 10; what++) {
             check.due("run " + run + ", call " + call + ": count " + what + " behind " + told, chest.count(what), model.count(what));
         }

@@ -52,7 +52,8 @@ final class Talk {
 
     static List<Integer> row(ChestOfLetters chest) {
         List<Integer> row = new ArrayList<>();
-        for (int i = 0; i < chest.count(8); i++) {
+        int size = chest.count(8);
+        for (int i = 0; i < size; i++) {
             row.add(chest.row(i));
         }
         return row;

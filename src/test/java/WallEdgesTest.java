@@ -1033,6 +1033,12 @@ public final class WallEdgesTest extends Edges {
             row("judge", chest, 1 << to);
             chest.bring(from);
         }
+        ChestOfLetters last = Talk.chest("a1;a=1;" + repeat("w1,1", 8));
+        last.hang(7, 0);
+        last.hang(0, 0);
+        last.take(7);
+        due("judge 700", last.judge(1, 700), -2);
+        row("judge 700", last, 1);
     }
 
     /** Numbers up to 1023: a first WALL of 10 is none such; nor are WALLS that are not there, or like ones. */

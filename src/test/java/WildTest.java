@@ -7,14 +7,16 @@ import java.util.Random;
  * names, and no call leaves objects behind, since all calls of a run live in one room.
  */
 public final class WildTest {
-    private static final int RUNS = 300;
-    private static final int CALLS = 512;
+    private static final int RUNS = 700;
+    /** What is promised of one object; a text takes up to 22 calls. */
+    private static final int CALLS = 512 - 23;
     private static final int[] ODD = {Integer.MIN_VALUE, Integer.MAX_VALUE, -1, -2, 0, 8, 9, 10, 11, 12, 31, 32, 33, 60, 61, 255, 256};
     private static final String[] TEXTS = {"a2;b2;c2;ab=1;ba=1;bb=1;ac=2;w9,2;w8,1;w7,1;w6,1", "a1;b1;aaaabbbb=1;w99,9;w1,1",
         "h0=0;t0;h1=1;t1;h2=2;t2;n1;l0>1a", "m*10+q-u+n*k/t", "((((i<w))))", "abcabc", "(-k)/(u-q)"};
 
     private final Random random;
     private final ChestOfLetters chest = new ChestOfLetters();
+    private int spent;
 
     private WildTest(int run) {
         random = new Random(run);
@@ -24,8 +26,9 @@ public final class WildTest {
         Check check = new Check("WildTest");
         for (int run = 0; run < RUNS; run++) {
             WildTest wild = new WildTest(run);
-            for (int call = 0; call < CALLS; call++) {
+            for (int call = 0; wild.spent < CALLS; call++) {
                 int which = wild.random.nextInt(52);
+                wild.spent++;
                 check.due("run " + run + ", call " + call + ", " + which, wild.thrown(which), "nothing");
             }
         }
@@ -50,7 +53,9 @@ public final class WildTest {
 
     private void tell() {
         if (random.nextInt(3) > 0) {
-            Talk.text(chest, TEXTS[random.nextInt(TEXTS.length)]);
+            String text = TEXTS[random.nextInt(TEXTS.length)];
+            Talk.text(chest, text);
+            spent += 2 + (text.length() + 3) / 4;
         }
     }
 
@@ -111,15 +116,16 @@ public final class WildTest {
         }
     }
 
-    /** What 512 of the dearest calls leave behind. */
+    /** What 400 of the dearest calls leave behind. */
     private static String room() {
         com.sun.management.ThreadMXBean threads = (com.sun.management.ThreadMXBean) ManagementFactory.getThreadMXBean();
-        ChestOfLetters chest = Talk.chest("a9;b9;a=1;b=1;c=1;d=1;e=1;f=1;ab=1;ba=1;bb=1;ac=2;w9,2;w8,1;w7,1;w6,1", "w1,1;w1,1;w1,1;w1,1");
+        ChestOfLetters chest = Talk.chest("a9;b9;a=1;b=1;c=1;d=1;e=1;f=1;ab=1;ba=1;bb=1;ac=2;w9,2;w8,1;w7,1;w6,1",
+            "w1,1;w1,1;w1,1;w1,1");
         for (int wall = 0; wall < 8; wall++) {
             chest.hang(wall, wall);
         }
         long before = threads.getThreadAllocatedBytes(Thread.currentThread().getId());
-        for (int i = 0; i < 512; i++) {
+        for (int i = 0; i < 400; i++) {
             dear(chest, i % 16);
         }
         long bytes = threads.getThreadAllocatedBytes(Thread.currentThread().getId()) - before;

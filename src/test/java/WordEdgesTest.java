@@ -454,6 +454,9 @@ public final class WordEdgesTest extends Edges {
         ChestOfLetters both = Talk.chest("aa=1;ab=1;ba=1;dd=1;ca=1");
         due("chain of both ends", both.chain(0), 3);
         row("chain of both ends", both, 0, 2, 4);
+        ChestOfLetters first = Talk.chest("aa=1;ab=1;ac=1");
+        due("chain by the first", first.chain(1), 3);
+        row("chain by the first", first, 1, 0, 2);
         ChestOfLetters late = Talk.chest(repeat("jjj=1", 8) + ";aa=1;ab=1;ca=1;cd=1");
         due("chain of late words", late.chain(8), 3);
         row("chain of late words", late, 8, 10, 11);
@@ -504,6 +507,9 @@ public final class WordEdgesTest extends Edges {
         due("cover", chest.cover(), 1);
         row("cover", chest, 1);
         changesTheRowAlone("cover", Edges::busy, asked -> asked.cover(), 1);
+        ChestOfLetters without = Talk.chest("b=1;bj=1");
+        due("cover without a", without.cover(), 1);
+        row("cover without a", without, 2);
     }
 
     /** Of as few those with the fewest LETTERS together. */
@@ -559,6 +565,12 @@ public final class WordEdgesTest extends Edges {
         row("ladder", chest, 3, 2);
         due("back", chest.ladder(1, 0), 3);
         row("back", chest, 2, 3);
+        ChestOfLetters last = Talk.chest("aa=1;bb=1;" + repeat("ccc=1", 9) + ";ab=1");
+        due("by the last word", last.ladder(0, 1), 2);
+        row("by the last word", last, 11);
+        ChestOfLetters two = Talk.chest("aa=1;bb=1;" + repeat("ccc=1", 8) + ";ba=1;ab=1");
+        due("by the last but one", two.ladder(0, 1), 2);
+        row("by the last but one", two, 10);
     }
 
     /** -2: none leads there: unlike in two places, another length, the same LETTERS but none between. */
