@@ -152,6 +152,11 @@ abstract class Edges {
         for (int what = 0; what < 8; what++) {
             told.append(" count ").append(chest.count(what));
         }
+        for (int wall = 0; wall < chest.count(1); wall++) {
+            for (int what = 0; what <= 8; what++) {
+                told.append(' ').append(Talk.wall(chest, wall, what));
+            }
+        }
         for (int letter = 0; letter < 10; letter++) {
             told.append(" left ").append(chest.left(letter)).append(" of ").append(chest.row(0));
             int walls = chest.row(1);
@@ -162,11 +167,6 @@ abstract class Edges {
         for (int word = 0; word < chest.count(0); word++) {
             told.append(" word ").append(chest.word(word)).append(Talk.row(chest));
         }
-        for (int wall = 0; wall < chest.count(1); wall++) {
-            for (int what = 0; what <= 8; what++) {
-                told.append(' ').append(Talk.wall(chest, wall, what));
-            }
-        }
         told.append(" forged ").append(chest.forged()).append(Talk.row(chest));
         return told.append(" liars ").append(chest.liars()).toString();
     }
@@ -174,8 +174,9 @@ abstract class Edges {
     // ---- chests
 
     /**
-     * a 3 of 5, b 1 of 3, c 0 of 2 left; words ab abc ba (SENSE 1) cc (2); wall 0 is up (abc, u 2), wall 1 waits (cc, one c, q 2),
-     * wall 2 is up (ab, u 1), wall 3 waits (ba, nothing hangs), wall 4 has no word. Eight steps can be undone.
+     * a 3 of 5, b 1 of 3, c 0 of 2 left; words ab abc ba (SENSE 1) cc (2); wall 0 is up (abc, u 2), wall 1 waits
+     * (cc, one c, q 2), wall 2 is up (ab, u 1), wall 3 waits (ba, nothing hangs), wall 4 has no word. Eight steps
+     * can be undone.
      */
     static ChestOfLetters busy() {
         ChestOfLetters chest = Talk.chest("a5;b3;c2;ab=1;abc=1;ba=1;cc=2;w9,4;w5,1;w7,3;w3,1;w2,2");
@@ -195,6 +196,18 @@ abstract class Edges {
         chest.left(0);
         Talk.text(chest, "a2");
         return chest;
+    }
+
+    /** Such a chest with a rule, a counting if it has a wall, something kept, and a text. */
+    static Maker rich(Maker maker) {
+        return () -> {
+            ChestOfLetters chest = maker.make();
+            Talk.rule(chest, "m*10+q");
+            chest.counted(0, 0, 3);
+            chest.keep(0);
+            Talk.text(chest, "a2");
+            return chest;
+        };
     }
 
     /** 20 of each letter, 12 words, 8 walls, 12 countings, 12 steps to undo, 80 signs, 11 numbers in the row. */

@@ -116,10 +116,11 @@ public final class ShortEdgesTest extends Edges {
     static void hoardsOfNoWalls() {
         Maker maker = () -> {
             ChestOfLetters chest = Talk.chest("a9;a=1");
+            chest.weeks(2);
             chest.left(0);
             return chest;
         };
-        changesNothing("hoards", maker, chest -> chest.hoards(), -2);
+        changesNothing("hoards", rich(maker), chest -> chest.hoards(), -2);
     }
 
     /** Of equal ones the first; none WAITS. */
@@ -383,7 +384,12 @@ public final class ShortEdgesTest extends Edges {
         due("the first anew", chest.counted(0, 0, 5), 1);
         due("forged, of 20", chest.forged(), 0);
         due("one", chest.forget(), 1);
-        changesNothing("forget none", ChestOfLetters::new, asked -> asked.forget(), 0);
+        Maker without = () -> {
+            ChestOfLetters one = busy();
+            one.forget();
+            return one;
+        };
+        changesNothing("forget none", without, asked -> asked.forget(), 0);
         ChestOfLetters busy = busy();
         due("two", busy.forget(), 2);
         row("stays", busy, 5, 5);

@@ -137,6 +137,14 @@ public final class TextEdgesTest extends Edges {
         due("sign", chest.sign(0x61626364), 80);
     }
 
+    static void signsTellNoRow() {
+        ChestOfLetters chest = busy();
+        due("sign", chest.sign(0x3b613b61), 6);
+        row("stays behind sign", chest, 5, 5);
+        due("end", chest.end(2), true);
+        row("stays behind end", chest, 5, 5);
+    }
+
     // ---- promise 3
 
     static void endAtAllItsSignsLeavesAll() {

@@ -450,7 +450,7 @@ public final class UpEdgesTest extends Edges {
             chest.left(0);
             return chest;
         };
-        changesNothing("shows", maker, chest -> chest.shows(), -2);
+        changesNothing("shows", rich(maker), chest -> chest.shows(), -2);
         ChestOfLetters chest = maker.make();
         Talk.town(chest, "a1");
         due("just enough", chest.shows(), 3);

@@ -974,6 +974,20 @@ public final class WallEdgesTest extends Edges {
         due("can be undone", never.count(6), 1);
     }
 
+    /** Calls that do not read THE TEXT leave it. */
+    static void stepsLeaveTheText() {
+        Call[] steps = {chest -> chest.hang(0, 3), chest -> chest.take(3), chest -> chest.bring(0),
+            chest -> chest.lend(0, 1, 2), chest -> chest.weeks(60), chest -> chest.undo(), chest -> chest.again(0),
+            chest -> chest.keep(0), chest -> chest.sheet(2, 3, 9, 0), chest -> chest.set(0, 0, 1),
+            chest -> chest.counted(0, 0, 0), chest -> chest.forget()};
+        for (Call step : steps) {
+            ChestOfLetters chest = busy();
+            step.on(chest);
+            due("signs", chest.count(9), 2);
+            due("town", chest.town(), 1);
+        }
+    }
+
     // ---- promise 21
 
     /** n (0 .. 3): none, all three. */

@@ -86,7 +86,7 @@ public final class WordEdgesTest extends Edges {
             chest.left(0);
             return chest;
         };
-        changesNothing("nearest", maker, chest -> chest.nearest(0), -2);
+        changesNothing("nearest", rich(maker), chest -> chest.nearest(0), -2);
         changesNothing("nearest, one letter fewer than its own", Edges::busy, chest -> chest.nearest(1), -2);
         ChestOfLetters chest = maker.make();
         Talk.town(chest, "aaa=1");
@@ -160,7 +160,7 @@ public final class WordEdgesTest extends Edges {
             chest.left(0);
             return chest;
         };
-        changesNothing("shortest", maker, chest -> chest.shortest(0), -2);
+        changesNothing("shortest", rich(maker), chest -> chest.shortest(0), -2);
     }
 
     /** Likewise -3: it has no WORD. */
@@ -269,7 +269,7 @@ public final class WordEdgesTest extends Edges {
     static void bestOfMoreThan20000Ways() {
         String words = "a=1;a=1;a=2;a=2;a=2;a=2;a=3;a=3;a=3;a=3;a=3";
         Maker maker = () -> ways(words, 0, 0, 0, 2, 2, 2, 6);
-        changesNothing("20250", maker, chest -> chest.best(), -3);
+        changesNothing("20250", rich(maker), chest -> chest.best(), -3);
         ChestOfLetters fewer = ways(words, 0, 0, 0, 2, 2, 2);
         due("3375", fewer.best(), 6);
     }
@@ -301,7 +301,7 @@ public final class WordEdgesTest extends Edges {
             }
             return chest;
         };
-        changesNothing("28561", maker, chest -> chest.best(), -3);
+        changesNothing("28561", rich(maker), chest -> chest.best(), -3);
     }
 
     // ---- promise 32
