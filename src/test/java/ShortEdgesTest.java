@@ -394,7 +394,11 @@ public final class ShortEdgesTest extends Edges {
         due("two", busy.forget(), 2);
         row("stays", busy, 5, 5);
         due("can be undone", busy.count(6), 8);
+        wall(busy, 0, "9 4 1 3 0 1 0 2 0");
+        wall(busy, 1, "5 1 3 1 1 0 2 0 12");
+        due("left", busy.count(4), 4);
         due("is kept", busy.again(0), true);
+        due("weeks", busy.count(5), 1);
     }
 
     // ---- promise 46
