@@ -32,6 +32,10 @@ public final class ShortEdgesTest extends Edges {
         row("64", chest, 64, 255);
         chest.take(0);
         due("what hangs counts", chest.wanting(9), 63);
+        Talk.town(chest, "j7");
+        chest.take(0);
+        due("one is up", chest.wanting(9), 56);
+        row("one is up", chest, 64, 255);
     }
 
     /** NONE: none such. */

@@ -651,6 +651,23 @@ public final class TextEdgesTest extends Edges {
         towns(chest, "a20;j20", 2);
     }
 
+    /** Nor in what is asked of WORDS and WALLS that are there. */
+    static void nothingOfAWrongTownIsAsked() {
+        ChestOfLetters chest = Talk.chest("a1;aa=1;w5,1");
+        chest.hang(0, 0);
+        towns(chest, "a=1;w9,1;x", -10);
+        due("best", chest.best(), 0);
+        row("best", chest, NONE);
+        due("shortest", chest.shortest(0), -2);
+        due("streets", chest.streets(1), 0);
+        due("same", chest.same(0), 0);
+        due("cover", chest.cover(), 1);
+        due("chain", chest.chain(0), 1);
+        due("most", chest.most(), 0);
+        due("wanting", chest.wanting(0), 1);
+        row("wanting", chest, 2, 1);
+    }
+
     static void nothingOfAWrongTownComesIntoAFullOne() {
         emptiesTheTextAlone("town", Edges::full, "a1", chest -> chest.town(), -2);
         emptiesTheTextAlone("town", Edges::full, "a0;ab=1", chest -> chest.town(), -6);
@@ -672,6 +689,16 @@ public final class TextEdgesTest extends Edges {
     private static int ruleOf(ChestOfLetters chest, int wall, String text) {
         ruled(chest, text, 0);
         return chest.wall(wall, 8);
+    }
+
+    /** A shorter rule leaves nothing of a longer one. */
+    static void aRuleIsTheLatestAlone() {
+        ChestOfLetters chest = busy();
+        due("long", ruleOf(chest, 1, "1+(2*(3+(4-(5+6))))"), -7);
+        due("short", ruleOf(chest, 1, "8"), 8);
+        due("wrong, then short", Talk.rule(chest, "1+2+x"), -5);
+        due("stays", chest.wall(1, 8), 8);
+        due("none", ruleOf(chest, 1, ""), 5);
     }
 
     private static void value(String text, int due) {

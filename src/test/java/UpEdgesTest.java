@@ -155,6 +155,14 @@ public final class UpEdgesTest extends Edges {
         row("no letters", letters, 0);
     }
 
+    static void mostOfTheFirstAlone() {
+        ChestOfLetters chest = Talk.chest("a1;a=1;b=1;w1,1;w9,1");
+        chest.hang(0, 0);
+        chest.hang(1, 1);
+        due("most", chest.most(), 1);
+        row("most", chest, 1);
+    }
+
     static void mostOfAllEight() {
         ChestOfLetters chest = full();
         due("all", chest.most(), 8);
@@ -455,6 +463,10 @@ public final class UpEdgesTest extends Edges {
         Talk.town(chest, "a1");
         due("just enough", chest.shows(), 3);
         row("just enough", chest, 1, 2 + 4 + 8, 16);
+        Talk.town(chest, "aaaaa=1");
+        chest.hang(0, 4);
+        due("the first can't", chest.shows(), -2);
+        row("stays", chest, 1, 2 + 4 + 8, 16);
     }
 
     /** All LETTERS of STOCKS, be WALLS UP or not. */

@@ -1124,6 +1124,19 @@ public final class WallEdgesTest extends Edges {
         row("eight", chest, 100, 101, 102, 103, 104, 105, 106, 207);
     }
 
+    /** There are no WALLS beyond those that there are, however long they waited. */
+    static void helpsOfTheLastOfEightWalls() {
+        ChestOfLetters chest = Talk.chest("a1;aa=1;" + repeat("w1,1", 8));
+        for (int wall = 0; wall < 8; wall++) {
+            chest.hang(wall, 0);
+        }
+        chest.weeks(3);
+        due("one of two", chest.helps(7), -2);
+        Talk.town(chest, "a1");
+        due("both", chest.helps(7), 1);
+        row("both", chest, 70);
+    }
+
     /** The last LETTERS, too: one fewer of them, just enough. */
     static void helpsOfTheLastLetters() {
         ChestOfLetters chest = Talk.chest("i1;j1;aij=1;ijj=1;w1,1;w1,1");

@@ -565,12 +565,27 @@ public final class WordEdgesTest extends Edges {
         row("ladder", chest, 3, 2);
         due("back", chest.ladder(1, 0), 3);
         row("back", chest, 2, 3);
+        ChestOfLetters first = Talk.chest("ab=1;aa=1;bb=1;ba=1");
+        due("by the first", first.ladder(1, 2), 2);
+        row("by the first", first, 0);
         ChestOfLetters last = Talk.chest("aa=1;bb=1;" + repeat("ccc=1", 9) + ";ab=1");
         due("by the last word", last.ladder(0, 1), 2);
         row("by the last word", last, 11);
         ChestOfLetters two = Talk.chest("aa=1;bb=1;" + repeat("ccc=1", 8) + ";ba=1;ab=1");
         due("by the last but one", two.ladder(0, 1), 2);
         row("by the last but one", two, 10);
+    }
+
+    /** All eight places are looked at, and no more. */
+    static void ladderOfEightLetters() {
+        ChestOfLetters chest = Talk.chest("aaaaaaaa=1;aaaaaaab=1;baaaaaab=1;c=1;baaaaaac=1");
+        due("the last place", chest.ladder(0, 1), 1);
+        due("the first place", chest.ladder(1, 2), 1);
+        due("both", chest.ladder(0, 2), 2);
+        row("both", chest, 1);
+        due("the last of all", chest.ladder(2, 4), 1);
+        due("all", chest.chain(0), 4);
+        row("all", chest, 0, 1, 2, 4);
     }
 
     /** -2: none leads there: unlike in two places, another length, the same LETTERS but none between. */
